@@ -5,13 +5,16 @@ public final class MergingTest {
         promise13To15Removed();
         promise13To15NewBlocks();
         promise13To15Places();
+        promise13To15RemovedAtOnce();
         promise14And15Refused();
+        promise13To18AskedFirst();
         promise16To18EditedTwice();
         promise16To18RemovedOrEdited();
         promise16To18MovedTwice();
         promise16To18Order();
         promise19Choose();
         promise19ChoiceStays();
+        promise19ChoiceOfEachBlock();
         promise20Prefer();
         promise21Open();
         promise22Accept();
@@ -115,6 +118,46 @@ public final class MergingTest {
         x.move(1, 1, 3);
         x.insert(0, 2, 99);
         Due.isText("new behind 0, as 1 comes later", Due.merged(x), "0:10 4:99 2:30 3:40 1:20");
+    }
+
+    private static void promise13To15RemovedAtOnce() {
+        DraftMerge x = Due.withBase(10, 20, 30);
+        Due.is("mergedSize", x.mergedSize(), 3);
+        Due.write(x, "0r1;1r1");
+        x.run();
+        Due.isText("removed in both by one call", Due.merged(x), "0:10 2:30");
+    }
+
+    /** Each call is the first one that asks after the change. */
+    private static void promise13To18AskedFirst() {
+        DraftMerge x = Due.withBase(10, 20, 30);
+        x.move(0, 2, 0);
+        Due.is("mergedBlock", x.mergedBlock(0), 2);
+        x.edit(1, 2, 33);
+        Due.is("mergedContent", x.mergedContent(0), 33);
+        x.edit(0, 0, 31);
+        Due.is("conflictBlock", x.conflictBlock(0), 2);
+        x.remove(1, 2);
+        Due.is("conflictKind", x.conflictKind(0), 2);
+        x.undo();
+        Due.is("conflictKind", x.conflictKind(0), 1);
+        x.remove(1, 2);
+        Due.is("conflicts", x.conflicts(), 1);
+        x.remove(0, 0);
+        Due.is("open", x.open(), 0);
+        x.insert(1, 2, 50);
+        Due.is("mergedSize", x.mergedSize(), 3);
+        x.insert(0, 0, 60);
+        Due.isDouble("similarity", x.similarity(1), 3.0 / 4.0);
+        x.move(1, 1, 0);
+        Due.is("change", x.change(1, 1), 2);
+        x.move(1, 1, 0);
+        Due.is("moves", x.moves(1), 0);
+        x.edit(0, 1, 98);
+        x.edit(1, 0, 97);
+        Due.is("choose", x.choose(0, 1), DraftMerge.NONE);
+        x.insert(1, 0, 51);
+        Due.is("accept", x.accept(), 5);
     }
 
     private static void promise14And15Refused() {
@@ -230,6 +273,33 @@ public final class MergingTest {
         x.edit(0, 0, 11);
         x.edit(1, 0, 12);
         Due.is("it stays when the base grows", x.choose(0, 0), 1);
+    }
+
+    private static void promise19ChoiceOfEachBlock() {
+        DraftMerge x = Due.withBase(0, 1, 2, 3, 4, 5, 6, 7, 8, 9);
+        for (int p = 0; p < 10; p++) {
+            x.edit(0, p, 20);
+            x.edit(1, p, 30);
+        }
+        Due.order(x, 0, 9, 8, 7, 6, 5, 4, 3, 2, 1, 0);
+        Due.order(x, 1, 5, 6, 7, 8, 9, 4, 3, 2, 1, 0);
+        int count = x.conflicts();
+        Due.isText("conflicts", Due.conflicts(x), "0/1 1/1 2/1 3/1 4/1 4/3 5/1 6/1 7/1 8/1 9/1");
+        Due.is("open", x.open(), count);
+        for (int c = 0; c < count; c++) {
+            Due.is("choose", x.choose(c, c % 2), DraftMerge.NONE);
+            Due.is("open", x.open(), count - 1 - c);
+        }
+        for (int c = 0; c < count; c++) {
+            Due.is("choose once more", x.choose(c, DraftMerge.NONE), c % 2);
+        }
+        DraftMerge y = Due.withBase(0, 1, 2, 3, 4, 5, 6, 7, 8, 9);
+        y.move(0, 9, 0);
+        y.move(1, 9, 1);
+        Due.isText("the last block is moved twice", Due.conflicts(y), "9/3");
+        Due.is("choose", y.choose(0, 1), DraftMerge.NONE);
+        Due.is("choose once more", y.choose(0, 1), 1);
+        Due.is("mergedBlock", y.mergedBlock(1), 9);
     }
 
     private static void promise20Prefer() {
