@@ -400,7 +400,7 @@ public final class DraftMerge {
         return false;
     }
 
-    // ---- rows of numbers: the only places where an array is indexed by a number that is not a written one
+    // ---- rows of numbers: nothing else indexes one, so that no index can be out of range
 
     private static int cell(int[] row, int index) {
         return index >= 0 && index < row.length ? row[index] : NONE;
