@@ -97,14 +97,13 @@ public final class CommandTextTest {
             {"1i3=", "0123456789"}, {"1i3=7", "0123456789;"}, {"0r", "0123456789"}, {"0r1", "012345;"},
             {"0r2", ";"}, {"0r10", ";"}, {"0r2;", "01"}, {"0r2;1", "emir"}};
         for (String[] follow : follows) {
-            DraftMerge x = new DraftMerge();
             for (int code = 33; code <= 126; code++) {
+                DraftMerge x = new DraftMerge();
                 Due.write(x, follow[0]);
                 x.append(code);
                 int length = follow[0].length();
                 int want = follow[1].indexOf((char) code) >= 0 ? length + 1 : length;
                 Due.is("firstError of " + follow[0] + (char) code, x.firstError(), want);
-                x.clearText();
             }
         }
     }

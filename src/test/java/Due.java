@@ -1,3 +1,6 @@
+import java.util.function.Consumer;
+import java.util.function.Supplier;
+
 /** Compares answers with the ones that are due, and ends the test with exit code 1 if one is not. */
 final class Due {
     static final Class<IndexOutOfBoundsException> INDEX = IndexOutOfBoundsException.class;
@@ -5,8 +8,20 @@ final class Due {
     static final Class<IllegalStateException> STATE = IllegalStateException.class;
 
     private static int wrong = 0;
+    private static String named = "";
 
     private Due() {
+    }
+
+    /** A call with one argument, which is tried at its bounds. */
+    interface Call {
+        void with(DraftMerge x, int argument);
+    }
+
+    /** Names the sentence of the document that the next answers are due by. */
+    static void says(String section, String sentence) {
+        Document.name(section, sentence);
+        named = section + ": " + sentence;
     }
 
     static void is(String call, long got, long want) {
@@ -27,6 +42,27 @@ final class Due {
         }
     }
 
+    static void answered(String call, Runnable doCall) {
+        try {
+            doCall.run();
+        } catch (RuntimeException e) {
+            tell(call + " throws " + e.getClass().getName() + ", due is an answer");
+        }
+    }
+
+    /** On new objects: the least and the greatest argument are answered, those beside them and the extremes are refused. */
+    static void bounds(Supplier<DraftMerge> made, String call, Class<? extends RuntimeException> want,
+            int least, int greatest, Call doCall) {
+        for (int argument : new int[] {least, greatest}) {
+            DraftMerge x = made.get();
+            answered(call + " with " + argument, () -> doCall.with(x, argument));
+        }
+        for (int argument : new int[] {least - 1, greatest + 1, Integer.MIN_VALUE, Integer.MAX_VALUE}) {
+            DraftMerge x = made.get();
+            refused(x, call + " with " + argument, want, () -> doCall.with(x, argument));
+        }
+    }
+
     /** The call must throw exactly this exception and change neither the state nor the saved states nor the buffer. */
     static void refused(DraftMerge x, String call, Class<? extends RuntimeException> want, Runnable doCall) {
         String before = summary(x);
@@ -38,6 +74,35 @@ final class Due {
         }
         isText(call + " throws", got, want.getName());
         isText(call + " leaves", summary(x), before);
+    }
+
+    /** The call that is answered is undone; the one that is refused saves nothing. */
+    static void undoable(Supplier<DraftMerge> made, String call, Consumer<DraftMerge> doCall,
+            Consumer<DraftMerge> doRefused) {
+        undone(made, call, doCall);
+        savesNothing(made, call, doRefused);
+    }
+
+    /** The call saves one state, and undo brings the state before it back. */
+    static void undone(Supplier<DraftMerge> made, String call, Consumer<DraftMerge> doCall) {
+        DraftMerge x = made.get();
+        String before = summary(x);
+        int saved = x.savedStates();
+        answered(call, () -> doCall.accept(x));
+        is("savedStates after " + call, x.savedStates(), saved + 1);
+        is("undo of " + call, x.undo(), saved);
+        isText("after undo of " + call, summary(x), before);
+    }
+
+    static void savesNothing(Supplier<DraftMerge> made, String call, Consumer<DraftMerge> doRefused) {
+        DraftMerge x = made.get();
+        int saved = x.savedStates();
+        try {
+            doRefused.accept(x);
+            tell(call + " that is to be refused is answered");
+        } catch (RuntimeException e) {
+            is("savedStates after a refused " + call, x.savedStates(), saved);
+        }
     }
 
     static String blocks(DraftMerge x, int draft) {
@@ -99,9 +164,9 @@ final class Due {
         }
     }
 
+    /** Few calls, as what an object answers after its 512th call is free; the digest tells the rest of the state. */
     static String summary(DraftMerge x) {
-        return x.digest() + " " + x.savedStates() + " " + x.firstError()
-                + " " + blocks(x, 0) + " | " + blocks(x, 1) + " | " + merged(x) + " | " + conflicts(x);
+        return x.digest() + " " + x.savedStates() + " " + x.firstError();
     }
 
     static void end(String test) {
@@ -112,6 +177,11 @@ final class Due {
     }
 
     private static void tell(String line) {
+        tellOfTests(named.isEmpty() ? line : "[" + named + "] " + line);
+    }
+
+    /** What is wrong with the tests themselves, whatever sentence is named. */
+    static void tellOfTests(String line) {
         wrong++;
         System.out.println(line);
     }

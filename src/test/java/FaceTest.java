@@ -89,6 +89,9 @@ public final class FaceTest {
 
     private static void fields(Class<?> c) {
         for (Field f : c.getDeclaredFields()) {
+            if (f.isSynthetic()) {
+                continue;
+            }
             boolean isNone = f.getName().equals("NONE");
             int shown = f.getModifiers() & (Modifier.PUBLIC | Modifier.PROTECTED | Modifier.PRIVATE);
             Due.is(f.getName() + " is shown", shown, isNone ? Modifier.PUBLIC : Modifier.PRIVATE);

@@ -1,10 +1,14 @@
-/** Long runs of calls, the same on DraftMerge and on SlowModel; they are always the same, as they come from a fixed sequence. */
+/**
+ * Long runs of calls, the same on DraftMerge and on SlowModel; they are always the same, as they come from a fixed
+ * sequence. What to call is asked of the model alone, and the calls are counted: only 512 are promised for an object.
+ */
 public final class ModelTest {
-    private static final int RUNS = 120;
+    private static final int RUNS = 240;
     private static final int CALLS = 512;
     private static final String[] KINDS = {"e", "m", "i", "r"};
 
     private long seed;
+    private int calls = 0;
     private final DraftMerge x = new DraftMerge();
     private final SlowModel y = new SlowModel();
 
@@ -37,6 +41,10 @@ public final class ModelTest {
     }
 
     private void both(String name, Call ofClass, Call ofModel) {
+        if (calls >= CALLS) {
+            return;
+        }
+        calls++;
         Due.isText(name, told(ofClass), told(ofModel));
     }
 
@@ -47,8 +55,8 @@ public final class ModelTest {
             both("run " + run + " addBase", () -> "" + x.addBase(content), () -> "" + y.addBase(content));
         }
         int acceptOften = below(3);
-        for (int call = baseCalls; call < CALLS; call += 2) {
-            String name = "run " + run + " call " + call + " ";
+        while (calls < CALLS) {
+            String name = "run " + run + " call " + calls + " ";
             if (below(5) < 3) {
                 changeSomething(name, acceptOften);
             } else {
@@ -64,7 +72,7 @@ public final class ModelTest {
 
     /** A position that is mostly in the draft. */
     private int somePosition(int draft) {
-        int size = draft == 0 || draft == 1 ? x.size(draft) : 3;
+        int size = draft == 0 || draft == 1 ? y.size(draft) : 3;
         return below(15) == 0 ? below(20) - 2 : below(size + 1);
     }
 
@@ -91,7 +99,7 @@ public final class ModelTest {
     }
 
     private void chooseSomething(String name) {
-        int conflict = below(12) == 0 ? below(8) - 2 : below(Math.max(1, x.conflicts()));
+        int conflict = below(12) == 0 ? below(8) - 2 : below(Math.max(1, y.conflicts()));
         int draft = below(12) == 0 ? below(6) - 3 : below(5) / 2 - (below(4) == 0 ? 1 : 0);
         both(name + "choose", () -> "" + x.choose(conflict, draft), () -> "" + y.choose(conflict, draft));
     }
@@ -127,8 +135,8 @@ public final class ModelTest {
     private String someCommand() {
         int draft = below(2);
         String kind = KINDS[below(KINDS.length)];
-        int first = below(x.size(draft) + 1) % 16;
-        int second = kind.equals("m") ? below(x.size(draft) + 1) % 16 : below(5) == 0 ? below(100) : below(4);
+        int first = below(y.size(draft) + 1) % 16;
+        int second = kind.equals("m") ? below(y.size(draft) + 1) % 16 : below(5) == 0 ? below(100) : below(4);
         String tail = kind.equals("r") ? "" : (kind.equals("m") ? ">" : "=") + second;
         return draft + kind + first + tail;
     }
@@ -136,8 +144,8 @@ public final class ModelTest {
     private void askSomething(String name) {
         int d = someDraft();
         int p = somePosition(d);
-        int m = below(x.mergedSize() + 2) - below(2);
-        int c = below(x.conflicts() + 2) - below(2);
+        int m = below(y.mergedSize() + 2) - below(2);
+        int c = below(y.conflicts() + 2) - below(2);
         switch (below(14)) {
             case 0 -> both(name + "block", () -> "" + x.block(d, p), () -> "" + y.block(d, p));
             case 1 -> both(name + "content", () -> "" + x.content(d, p), () -> "" + y.content(d, p));
