@@ -7,10 +7,29 @@ final class Due {
     static final Class<IllegalArgumentException> ARGUMENT = IllegalArgumentException.class;
     static final Class<IllegalStateException> STATE = IllegalStateException.class;
 
+    private static final long LIMIT_MILLIS = 300_000;
+
     private static int wrong = 0;
-    private static String named = "";
+    private static volatile String named = "";
+
+    static {
+        Thread watch = new Thread(Due::endIfStuck);
+        watch.setDaemon(true);
+        watch.start();
+    }
 
     private Due() {
+    }
+
+    /** A call that does not end must fail the test, not hold it for ever. */
+    private static void endIfStuck() {
+        try {
+            Thread.sleep(LIMIT_MILLIS);
+        } catch (InterruptedException e) {
+            return;
+        }
+        System.out.println((named.isEmpty() ? "" : "[" + named + "] ") + "a call does not end");
+        Runtime.getRuntime().halt(1);
     }
 
     /** A call with one argument, which is tried at its bounds. */
