@@ -2,14 +2,16 @@ import java.io.IOException;
 import java.io.UncheckedIOException;
 import java.nio.file.Files;
 import java.nio.file.Path;
+import java.util.ArrayList;
 import java.util.Arrays;
 import java.util.LinkedHashMap;
 import java.util.List;
 import java.util.Map;
 
 /**
- * The sentences of ../shared/DOC.md from "Terms" to the promise 31. A test names the sentence that it is about; a
- * sentence that the document does not have, and one that no test has named in the end, are both faults of the tests.
+ * The sentences of ../shared/DOC.md from its first line to the promise 31, and its public face. A test names the sentence
+ * that it is about; one that the document does not have, and one that no test has named in the end, are both faults of the
+ * tests. "Not promised" is left out, as no answer can break it.
  */
 final class Document {
     private static final Path FILE = Path.of("../shared/DOC.md");
@@ -46,6 +48,17 @@ final class Document {
         }
     }
 
+    /** The lines of the public face, from the class's own to the one of its last method. */
+    static List<String> face() {
+        List<String> all = lines();
+        List<String> section = all.subList(all.indexOf("## The public face"), all.size());
+        List<String> face = new ArrayList<>();
+        for (String line : section.subList(section.indexOf("```java") + 1, section.indexOf("}"))) {
+            face.add(line.strip());
+        }
+        return face;
+    }
+
     private static void read() {
         if (texts != null) {
             return;
@@ -80,7 +93,7 @@ final class Document {
         if (title.startsWith("Promise ")) {
             return title.substring(0, title.indexOf(':'));
         }
-        return title.matches("Terms|Merging|Command text|Undo|Exceptions") ? title : "";
+        return title.matches("What it is|Terms|Merging|Command text|Undo|Exceptions") ? title : "";
     }
 
     private static boolean isHeadingInside(String section, String line) {

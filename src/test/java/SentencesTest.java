@@ -1,9 +1,10 @@
 /**
- * Each sentence of the document from "Terms" to the promise 31 has a test that names it and calls the class on both sides
- * of its boundary. In the end, a sentence that no test has named is a fault too.
+ * Each sentence of the document from its first line to the promise 31 has a test that names it and calls the class on both
+ * sides of its boundary. In the end, a sentence that no test has named is a fault too.
  */
 public final class SentencesTest {
     public static void main(String[] args) {
+        WhatItIs.check();
         Terms.check();
         TermsMerging.check();
         TermsCommandText.check();
